@@ -1013,9 +1013,11 @@ public final class LeastSums {
         final long[] base;
         final long[] rise;
         final long[] run;
-        /** Those that go on to the right of the x that is looked at. */
+        /** Of the x that is looked at: the lines that go on to its right, the lowest lone knot (or -1), the next x. */
         final int[] live;
         int lives = 0;
+        int lone = -1;
+        int next = BEYOND;
 
         Lines(int most) {
             from = new int[most];
@@ -1144,35 +1146,30 @@ public final class LeastSums {
         void lowestInto(Shape out) {
             out.wipe();
             int left = -1;
-            int x = placeBehind(Integer.MIN_VALUE);
-            for (int step = 0; step < 2 * many && x != BEYOND; step++) {
-                gatherLive(x);
+            int x = Integer.MIN_VALUE;
+            for (int step = 0; step <= 2 * many && x != BEYOND; step++) {
+                lookAt(x);
                 int right = lowestLive(x);
-                meetAt(out, x, left, lowestLone(x), right);
-                x = placeBehind(x);
-                left = follow(out, right, x);
+                meetAt(out, x, left, right);
+                left = follow(out, right);
+                x = next;
             }
         }
 
-        /** The next x at which a line begins or ends. */
-        int placeBehind(int x) {
-            int next = BEYOND;
+        /** Finds what lives behind an x, its lowest lone knot, and the next x where a line begins or ends. */
+        void lookAt(int x) {
+            lives = 0;
+            lone = -1;
+            next = BEYOND;
             for (int k = 0; k < many; k++) {
                 if (from[k] > x) {
                     next = Math.min(next, from[k]);
                 } else if (to[k] > x) {
                     next = Math.min(next, to[k]);
-                }
-            }
-            return next;
-        }
-
-        void gatherLive(int x) {
-            lives = 0;
-            for (int k = 0; k < many; k++) {
-                if (from[k] <= x && x < to[k]) {
                     live[lives] = k;
                     lives++;
+                } else if (from[k] == x && (lone < 0 || orderAt(k, lone, x) < 0)) {
+                    lone = k;
                 }
             }
         }
@@ -1190,16 +1187,6 @@ public final class LeastSums {
             return low;
         }
 
-        int lowestLone(int x) {
-            int low = -1;
-            for (int k = 0; k < many; k++) {
-                if (from[k] == x && to[k] == x && (low < 0 || orderAt(k, low, x) < 0)) {
-                    low = k;
-                }
-            }
-            return low;
-        }
-
         int orderAt(int k, int m, int x) {
             return Ratio.order(base[k] + rise[k] * x, run[k], base[m] + rise[m] * x, run[m]);
         }
@@ -1209,8 +1196,8 @@ public final class LeastSums {
             return Long.compare(rise[k] * run[m], rise[m] * run[k]);
         }
 
-        /** The knots at an x to which one line comes, from which another goes, with one on its own (each or -1). */
-        void meetAt(Shape out, int x, int left, int lone, int right) {
+        /** The knots at an x to which one line comes and from which another goes (each of them or -1). */
+        void meetAt(Shape out, int x, int left, int right) {
             boolean loneIsLowest = lone >= 0
                     && (left < 0 || orderAt(lone, left, x) < 0)
                     && (right < 0 || orderAt(lone, right, x) < 0);
@@ -1235,11 +1222,11 @@ public final class LeastSums {
             out.addKnot(x, 1, base[line] + rise[line] * x, run[line], lineFollows);
         }
 
-        /** From a line that is lowest on to the one that is lowest ahead of the next begin or end. */
-        int follow(Shape out, int line, int next) {
+        /** From the line that is lowest now to the one that is lowest just ahead of the next x. */
+        int follow(Shape out, int line) {
             int now = line;
             for (int step = 0; step < lives && now >= 0; step++) {
-                int then = firstCrossing(now, next);
+                int then = firstCrossing(now);
                 if (then < 0) {
                     return now;
                 }
@@ -1251,20 +1238,26 @@ public final class LeastSums {
             return now;
         }
 
-        /** The line that first comes below this one ahead of x; of several there the least steep. */
-        int firstCrossing(int now, int x) {
+        /** The line that first comes below this one ahead of the next x; of several there the least steep. */
+        int firstCrossing(int now) {
             int found = -1;
+            long foundTop = 0;
+            long foundBottom = 1;
             for (int k = 0; k < lives; k++) {
                 int line = live[k];
                 long bottom = crossingBottom(now, line);
-                long top = crossingTop(now, line);
-                if (bottom <= 0 || top >= bottom * x) {
+                if (bottom <= 0) {
                     continue;
                 }
-                int order = found < 0 ? -1
-                        : Ratio.order(top, bottom, crossingTop(now, found), crossingBottom(now, found));
+                long top = crossingTop(now, line);
+                if (top >= bottom * next) {
+                    continue;
+                }
+                int order = found < 0 ? -1 : Ratio.order(top, bottom, foundTop, foundBottom);
                 if (order < 0 || order == 0 && steepness(line, found) < 0) {
                     found = line;
+                    foundTop = top;
+                    foundBottom = bottom;
                 }
             }
             return found;
