@@ -262,12 +262,31 @@ public final class PromiseTest {
         bad("0,0 " + (char) 233, 4);
         bad("0 1", 2);
         bad("0,0 1", 5);
+        bad(" ".repeat(400), 400);
+        bad("0".repeat(400), 400);
+        bad("0,-" + " ".repeat(397), 400);
+        bad("1".repeat(400), 0);
+        cutOff();
         write("0,0 ?");
         x.read(9);
         due("read refused by -2 tells no fault", x.fault(), 5);
         good(0, "0,0", 1);
         due("read refused by -2 keeps the fault", x.read(6), -2);
         due("fault", x.fault(), -1);
+    }
+
+    /** Bytes that end() took away are not read, whatever they are. */
+    private void cutOff() {
+        String[] texts = {"0,   ", "0,00 1,1", "0,1/6", "0,0|1", "5,67", "0,0-"};
+        int[] kept = {2, 2, 4, 4, 3, 3};
+        int[] faults = {2, 2, 4, 4, -1, -1};
+        for (int k = 0; k < texts.length; k++) {
+            write(texts[k] + " ".repeat(20));
+            x.end(kept[k]);
+            due("read of " + kept[k] + " bytes of " + texts[k], x.read(5), faults[k] < 0 ? 1 : -6);
+            due("fault of " + kept[k] + " bytes of " + texts[k], x.fault(), faults[k]);
+        }
+        bad("0,0 1", 5);
     }
 
     private void faultOrder() {
