@@ -405,6 +405,10 @@ public final class PromiseTest {
         text(0, "0,0|1,0");
         due("dots that lie near", x.join(0, 1), 7);
         paperIs("0,0 1,1|1,0 3/2,1/2 2,0|2,1 3,0");
+        text(0, "0,0|10,0|20,0");
+        text(1, "0,-4 4,4|10,-2 14,2|20,0 24,0");
+        due("three lines through one point", x.join(0, 1), 13);
+        paperIs("0,-4 4,4|10,-4 12,0 14,2|20,-4 22,0 24,0|30,-2 32,0 34,0|40,0 44,0");
         text(0, "-99,99 99,-99");
         due("beyond all places", x.join(0, 0), 2);
         paperIs("-198,198 198,-198");
