@@ -85,11 +85,16 @@ public final class RandomRunsTest {
     // ---- what is drawn
 
     private int store() {
-        return draw.nextInt(25) == 0 ? (draw.nextBoolean() ? 6 : -1) : draw.nextInt(draw.nextBoolean() ? 3 : 6);
+        return draw.nextInt(25) == 0 ? outside(5) : draw.nextInt(draw.nextBoolean() ? 3 : 6);
     }
 
     private int what(int most) {
-        return draw.nextInt(20) == 0 ? (draw.nextBoolean() ? most + 1 : -1) : draw.nextInt(most + 1);
+        return draw.nextInt(20) == 0 ? outside(most) : draw.nextInt(most + 1);
+    }
+
+    private int outside(int most) {
+        int[] all = {most + 1, -1, Integer.MIN_VALUE, Integer.MAX_VALUE};
+        return all[draw.nextInt(all.length)];
     }
 
     private int place() {
@@ -245,7 +250,7 @@ public final class RandomRunsTest {
                 break;
             }
             case 16: {
-                int by = draw.nextInt(4) == 0 ? draw.nextInt(64) - 2 : draw.nextInt(3);
+                int by = draw.nextInt(4) == 0 ? draw.nextInt(64) - 2 : draw.nextInt(20) == 0 ? outside(60) : draw.nextInt(3);
                 check("times " + i + " " + by, mine.times(i, by), model.times(i, by));
                 break;
             }
@@ -276,8 +281,9 @@ public final class RandomRunsTest {
     private void ask(int i, int j) {
         int x = place();
         int z = place();
-        int k = draw.nextInt(8) - 1;
-        for (int w = -1; w < 6; w++) {
+        int k = draw.nextInt(9) == 0 ? outside(99) : draw.nextInt(7);
+        int[] whats = {-1, 0, 1, 2, 3, 4, 5, Integer.MIN_VALUE, Integer.MAX_VALUE};
+        for (int w : whats) {
             quiet("paper " + k + " " + w, mine.paper(k, w), model.paper(k, w));
             quiet("knot " + i + " " + k + " " + w, mine.knot(i, k, w), model.knot(i, k, w));
             quiet("value " + i + " " + x + " " + w, mine.value(i, x, w), model.value(i, x, w));
@@ -291,6 +297,9 @@ public final class RandomRunsTest {
         for (int w = -1; w < 11; w++) {
             quiet("of " + i + " " + w, mine.of(i, w), model.of(i, w));
         }
+        quiet("of " + i, mine.of(i, Integer.MAX_VALUE), model.of(i, Integer.MAX_VALUE));
+        quiet("count", mine.count(Integer.MIN_VALUE), model.count(Integer.MIN_VALUE));
+        quiet("count", mine.count(Integer.MAX_VALUE), model.count(Integer.MAX_VALUE));
         quiet("bits " + i + " " + x, mine.bits(i, x), model.bits(i, x));
         quiet("places " + i + " " + x + " " + z, mine.places(i, x, z), model.places(i, x, z));
         quiet("compare " + i + " " + j, mine.compare(i, j), model.compare(i, j));
