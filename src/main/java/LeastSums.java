@@ -1421,12 +1421,17 @@ public final class LeastSums {
         }
 
         private boolean readKnot(Lines lines) {
+            skipBlanks();
+            if (knots >= STORE_KNOTS) {
+                // a 13th KNOT is wrong from its first byte on, whatever stands in it
+                return fail(at);
+            }
             if (!readFraction()) {
                 return false;
             }
             int nextX = place;
             boolean tooEarly = knots > 0 && (knotsOfPart > 0 ? nextX <= x : nextX < x);
-            if (tooEarly || knots >= STORE_KNOTS) {
+            if (tooEarly) {
                 return fail(begin);
             }
             skipBlanks();

@@ -53,8 +53,11 @@ final class ModelText {
         boolean fresh = true;
         do {
             int place = signs.get(next).at();
+            if (knots.size() == 12) {
+                throw new Fault(place);
+            }
             Fraction x = fraction();
-            if (lastX != null && (fresh ? x.below(lastX) : !lastX.below(x)) || knots.size() == 12) {
+            if (lastX != null && (fresh ? x.below(lastX) : !lastX.below(x))) {
                 throw new Fault(place);
             }
             must(',');

@@ -302,11 +302,40 @@ public final class PromiseTest {
         bad("0,0 100,", 4);
         String twelve = "0,0 1,1 2,0 3,1 4,0 5,1 6,0 7,1 8,0 9,1 10,0 11,1";
         good(0, twelve, 12);
-        bad(twelve + " 12,5", twelve.length() + 1);
-        bad(twelve + " | -12,5", twelve.length() + 3);
-        bad(twelve + " 12", twelve.length() + 1);
         bad(twelve + " x", twelve.length() + 1);
         bad("0,0 1,1 2,2 3,3 4,4 5,5 6,6 7,7 8,8 9,9 10,10 11,11 12,12", 52);
+        thirteenth(twelve);
+    }
+
+    /** A 13th KNOT is told by the first byte of its x, whatever follows in it or is missing. */
+    private void thirteenth(String twelve) {
+        String[] xs = {
+            "12,5", "12", "1", "-12,5", "-", "- ", "-x", "--12,5", "-|", "-,", "-10000,0", "- 10000", "-99999,",
+            "10000,0", "12/61,0", "12/0,0", "12/,0", "12/", "12 / ", "12/x", "12/-2,0", "12/|", "12/2", "-12/61",
+            "-12/", "1/7,0", "-1/7", "100,0", "-100/61", "12x", "12,", "12,x", "12,1/61", "11,0", "3,0", "12 13",
+            "x", ",", "|",
+        };
+        for (String ahead : new String[] {" ", "   ", "|", " | "}) {
+            String begin = twelve + ahead;
+            for (String told : xs) {
+                boolean bar = told.equals("|") && !ahead.contains("|");
+                PromiseTest fresh = new PromiseTest(promise);
+                fresh.bad(begin + told, begin.length() + (bar ? 1 : 0));
+                fresh.bad(begin + told + " ", begin.length() + (bar ? 2 : 0));
+            }
+        }
+        bad(twelve + "-", twelve.length());
+        bad(twelve + "-12/61", twelve.length());
+        bad(twelve + "|", twelve.length() + 1);
+        bad(twelve + " |  ", twelve.length() + 4);
+        bad(twelve + "|/", twelve.length() + 1);
+        bad(twelve + "/61", twelve.length() + 1);
+        bad(twelve + "/60 -", twelve.length() + 4);
+        bad("0,0|".repeat(12) + "0/61", 48);
+        good(0, "0,0|".repeat(11) + "0,0", 1);
+        good(0, twelve + "  ", 12);
+        due("a 13th KNOT changes nothing", text(0, twelve + " 12/61,0"), -6);
+        due("KNOTS", x.count(0), 12);
     }
 
     private void dot() {

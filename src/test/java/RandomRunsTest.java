@@ -145,7 +145,7 @@ public final class RandomRunsTest {
     }
 
     private String goodText() {
-        int n = 1 + draw.nextInt(draw.nextInt(4) == 0 ? 13 : 6);
+        int n = draw.nextInt(12) == 0 ? 13 : 1 + draw.nextInt(draw.nextInt(4) == 0 ? 13 : 6);
         int[] xs = new int[n];
         for (int k = 0; k < n; k++) {
             xs[k] = plainPlace();
@@ -174,7 +174,9 @@ public final class RandomRunsTest {
         StringBuilder bad = new StringBuilder(good);
         String signs = "0123456789,,//||--  xE";
         for (int k = 0; k <= draw.nextInt(3); k++) {
+            // the last KNOT is hit more often, since only there the count of KNOTS and other faults meet
             int at = draw.nextInt(bad.length());
+            at = draw.nextInt(3) == 0 ? Math.max(at, bad.length() - 1 - draw.nextInt(9)) : at;
             char sign = draw.nextInt(15) == 0 ? (char) draw.nextInt(256) : signs.charAt(draw.nextInt(signs.length()));
             switch (draw.nextInt(3)) {
                 case 0: bad.setCharAt(at, sign); break;
