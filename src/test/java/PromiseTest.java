@@ -1,18 +1,9 @@
-import java.nio.ByteBuffer;
-import java.nio.charset.StandardCharsets;
 import java.util.Arrays;
 
 /** For each promise of the document answers worked out by hand: ordinary ones, edges, wrong inputs. */
-public final class PromiseTest {
-    private static final long NOTHING = Long.MIN_VALUE;
-    private static final int ABSENT = Integer.MIN_VALUE;
-    private static int wrong = 0;
-
-    private final LeastSums x = new LeastSums();
-    private final String promise;
-
+public final class PromiseTest extends Bench {
     private PromiseTest(String promise) {
-        this.promise = promise;
+        name = "promise " + promise;
     }
 
     public static void main(String[] args) {
@@ -51,85 +42,13 @@ public final class PromiseTest {
         new PromiseTest("33 compare").compare();
         new PromiseTest("34 count").count();
         new PromiseTest("35 status").status();
-        System.out.println(wrong == 0 ? "PromiseTest: all answers are as due" : "PromiseTest: " + wrong + " wrong");
-        if (wrong != 0) {
-            System.exit(1);
-        }
+        tell("PromiseTest");
     }
 
     // ---- helps
 
-    private void due(String call, long got, long want) {
-        if (got != want) {
-            wrong++;
-            System.out.println("promise " + promise + ": " + call + " answered " + got + ", due is " + want);
-        }
-    }
-
-    private static int[] words(byte[] bytes, int at) {
-        ByteBuffer twenty = ByteBuffer.wrap(Arrays.copyOfRange(bytes, at, at + 20));
-        return new int[] {twenty.getInt(), twenty.getInt(), twenty.getInt(), twenty.getInt(), twenty.getInt()};
-    }
-
-    private void write(String text) {
-        x.end(0);
-        byte[] bytes = text.getBytes(StandardCharsets.ISO_8859_1);
-        for (int at = 0; at < bytes.length; at += 20) {
-            int[] w = words(bytes, at);
-            x.feed(w[0], w[1], w[2], w[3], w[4]);
-        }
-        x.end(bytes.length);
-    }
-
-    private int text(int i, String text) {
-        write(text);
-        return x.read(i);
-    }
-
-    private void good(int i, String text, int knots) {
-        due("read \"" + text + "\"", text(i, text), knots);
-        due("fault of \"" + text + "\"", x.fault(), -1);
-    }
-
-    private void bad(String text, int fault) {
-        due("read \"" + text + "\"", text(5, text), -6);
-        due("fault of \"" + text + "\"", x.fault(), fault);
-        due("status of \"" + text + "\"", x.status(), -6);
-        due("tape behind \"" + text + "\"", x.count(10), 0);
-    }
-
-    private static String number(long upper, long lower) {
-        return lower == 1 ? "" + upper : upper + "/" + lower;
-    }
-
-    /** PAPER as a TEXT: parts by |, knots by a blank. */
-    private String paperText() {
-        StringBuilder all = new StringBuilder();
-        for (int k = 0; k < x.count(6); k++) {
-            if (k > 0) {
-                all.append(x.paper(k - 1, 4) == 1 ? " " : "|");
-            }
-            all.append(number(x.paper(k, 0), x.paper(k, 1))).append(',').append(number(x.paper(k, 2), x.paper(k, 3)));
-        }
-        return all.toString();
-    }
-
-    private void paperIs(String want) {
-        String got = paperText();
-        if (!got.equals(want)) {
-            wrong++;
-            System.out.println("promise " + promise + ": PAPER is \"" + got + "\", due is \"" + want + "\"");
-        }
-    }
-
-    private void storeIs(int i, String want) {
-        x.lay(i);
-        paperIs(want);
-        x.undo();
-    }
-
     private void refusesStores(String name, java.util.function.IntUnaryOperator call) {
-        for (int i : new int[] {-1, 6, Integer.MIN_VALUE, Integer.MAX_VALUE}) {
+        for (int i : NO_STORES) {
             due(name + "(" + i + ")", call.applyAsInt(i), -2);
             due("status behind it", x.status(), -2);
         }
@@ -286,7 +205,7 @@ public final class PromiseTest {
             due("read of " + kept[k] + " bytes of " + texts[k], x.read(5), faults[k] < 0 ? 1 : -6);
             due("fault of " + kept[k] + " bytes of " + texts[k], x.fault(), faults[k]);
         }
-        bad("0,0 1", 5);
+        badHere("0,0 1", 5);
     }
 
     private void faultOrder() {
@@ -319,9 +238,8 @@ public final class PromiseTest {
             String begin = twelve + ahead;
             for (String told : xs) {
                 boolean bar = told.equals("|") && !ahead.contains("|");
-                PromiseTest fresh = new PromiseTest(promise);
-                fresh.bad(begin + told, begin.length() + (bar ? 1 : 0));
-                fresh.bad(begin + told + " ", begin.length() + (bar ? 2 : 0));
+                bad(begin + told, begin.length() + (bar ? 1 : 0));
+                bad(begin + told + " ", begin.length() + (bar ? 2 : 0));
             }
         }
         bad(twelve + "-", twelve.length());
