@@ -967,17 +967,6 @@ public final class LeastSums {
             return all;
         }
 
-        /** Of the knots at the least x the lowest, which is where a hull begins. */
-        int hullBegin() {
-            int low = 0;
-            for (int k = 1; k < knots && xUpper[k] == xUpper[0]; k++) {
-                if (yUpper[k] < yUpper[low]) {
-                    low = k;
-                }
-            }
-            return low;
-        }
-
         /** The knot behind k that is seen from it least steep, of these the farthest; -1 without one. */
         int hullNext(int k) {
             int next = -1;
@@ -1113,7 +1102,8 @@ public final class LeastSums {
             if (shape.knots == 0) {
                 return;
             }
-            int now = shape.hullBegin();
+            // a lone KNOT that is higher is none, so that at the least x the first KNOT is the lowest
+            int now = 0;
             addBetween(shape.xUpper[now], shape.yUpper[now], 0, 0);
             for (int step = 0; step < shape.knots; step++) {
                 int next = shape.hullNext(now);

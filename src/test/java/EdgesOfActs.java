@@ -79,6 +79,17 @@ final class EdgesOfActs extends Bench {
         storeIs(5, "0,0 1,1|2,2");
     }
 
+    @Sentence(promise = 7, says = "Nothing is there any more:")
+    void clearBehindManyActs() {
+        for (int k = 0; k < 12; k++) {
+            text(0, "0,0 1,1|2,2");
+        }
+        due("clear", x.clear(0), 3);
+        storeIs(0, "");
+        due("a KNOT behind it", x.dot(0, 0, 0), 1);
+        storeIs(0, "0,0");
+    }
+
     @Sentence(promise = 7, says = "-2.")
     void clearOfNoStore() {
         refusesStores("clear", i -> x.clear(i));
@@ -322,6 +333,11 @@ final class EdgesOfActs extends Bench {
         cannotBePut("x and y are fractions");
         x.cut(0, 1, 420);
         cannotBePut("the first y is a fraction");
+        text(2, "0,-1 1,6");
+        text(3, "0,0 1,0");
+        x.under(2, 3);
+        paperIs("0,-1 1/7,0 1,0");
+        cannotBePut("x alone is a fraction");
         x.cut(0, 0, 1);
         cannotBePut("the last y is a fraction");
         x.move(0, 5521, 0);
@@ -390,6 +406,7 @@ final class EdgesOfActs extends Bench {
     void eightAreKept() {
         for (int k = 0; k < 11; k++) {
             x.dot(0, k, 0);
+            due("KNOTS", x.of(0, 0), 1);
             due("how many can be undone", x.count(9), Math.min(8, k + 1));
         }
         for (int k = 0; k < 8; k++) {
@@ -480,6 +497,22 @@ final class EdgesOfActs extends Bench {
     private String storesAndPaper() {
         String all = state();
         return all.substring(0, all.lastIndexOf('\n'));
+    }
+
+    /** PAPER may have more KNOTS than a place of STORE: all of them are kept, and brought back. */
+    @Sentence(promise = 19, says = "IMAGE k (0, 1) of STORE and PAPER is kept:")
+    void imageKeepsAllKnotsOfPaper() {
+        text(0, "0,0 1,1 2,0 3,1 4,0 5,1 6,0 7,1 8,0 9,1 10,0 11,1");
+        due("22 KNOTS", x.join(0, 0), 22);
+        String paper = paperText();
+        due("image(0)", x.image(0), 12);
+        x.lay(5);
+        x.undo();
+        paperIs(paper);
+        x.lay(5);
+        due("back(0)", x.back(0), 12);
+        paperIs(paper);
+        due("KNOTS of PAPER", x.count(6), 22);
     }
 
     @Sentence(promise = 19, says = "is kept:")

@@ -320,6 +320,11 @@ final class EdgesOfQuestions extends Bench {
         text(0, "0,-1|0,9 1,9|1,-1");
         due("the greatest y is of a KNOT that VALUE hides", x.least(0, 3), 540);
         due("the greatest x", x.least(0, 2), 60);
+        text(0, "0,0 1,-1 2,3");
+        due("the second KNOT is the least", x.least(0, 1), 60);
+        due("the second KNOT is the least", x.least(0, 2), 60);
+        text(0, "0,0 1,4 2,3");
+        due("the second KNOT is the greatest", x.least(0, 3), 240);
         x.dot(0, -7, -9);
         due("of a lone KNOT", x.least(0, 0), -9);
         due("of a lone KNOT", x.least(0, 1), -7);
@@ -556,6 +561,14 @@ final class EdgesOfQuestions extends Bench {
         compares("0,0 1,5 2,0", "0,0 2,0", 1);
     }
 
+    /** Beside a KNOT one may be lower though both are alike at it, and where the next KNOT is. */
+    @Sentence(promise = 33, says = "over all x of both DOMAINS:")
+    void compareBesideKnots() {
+        compares("0,0|0,1 1,1", "0,0|0,2 1,1", -1);
+        compares("0,1 1,1|1,0", "0,1 1,2|1,0", -1);
+        compares("0,0|0,1 1,1 2,2|2,0", "0,0|0,2 1,1 2,1|2,0", 2);
+    }
+
     @Sentence(promise = 33, says = "0 alike at all,")
     void compareAlike() {
         compares("0,0 1,1|5,5", "0,0 1,1|5,5", 0);
@@ -576,6 +589,8 @@ final class EdgesOfQuestions extends Bench {
     void compareNothingInCommon() {
         compares("0,0 1,0", "61/60,0 3,0", 3);
         compares("0,0|2,0", "1,0|3,0", 3);
+        due("alike ahead", x.compare(0, 0), 0);
+        due("nothing in common behind it", x.compare(0, 1), 3);
         due("with NOTHING", x.compare(0, 4), 3);
         due("NOTHING with NOTHING", x.compare(4, 4), 3);
     }

@@ -1,5 +1,6 @@
 /** The document's Terms, but for its TEXTS: what a FUNCTION is, what is REFUSED, what comes onto PAPER. */
 final class EdgesOfTerms extends Bench {
+    private static final String ZIGZAG = "0,0 1,1 2,0 3,1 4,0 5,1 6,0 7,1 8,0 9,1 10,0 11,1";
 
     // ---- I: places, functions, values
 
@@ -143,6 +144,25 @@ final class EdgesOfTerms extends Bench {
         due("below a line", x.under(0, 1), 5);
     }
 
+    @Sentence(promise = 0, says = "or line is as low or lower.")
+    void aLoneKnotOverTheEndOfALineIsNone() {
+        text(0, "1,1 2,2");
+        for (int y : new int[] {300, 60}) {
+            x.dot(1, 60, y);
+            due("at the begin of a line", x.under(0, 1), 2);
+            due("the other way", x.under(1, 0), 2);
+        }
+        x.dot(1, 120, 121);
+        due("at the end of a line", x.under(0, 1), 2);
+        due("the other way", x.under(1, 0), 2);
+        x.dot(1, 120, 119);
+        due("below the end of a line", x.under(0, 1), 3);
+        paperIs("1,1 2,2|2,119/60");
+        x.dot(1, 60, 59);
+        due("below the begin of a line", x.under(1, 0), 3);
+        paperIs("1,59/60|1,1 2,2");
+    }
+
     @Sentence(promise = 0, says = "a PART of one KNOT is none, if at its x another PART's KNOT or line is as low or lower.")
     void aLoneKnotBelowAllOthersStays() {
         reads("0,0 1,1|1,59/60", "0,0 1,1|1,59/60");
@@ -152,7 +172,7 @@ final class EdgesOfTerms extends Bench {
 
     @Sentence(promise = 0, says = "It has at most 12 KNOTS in STORE, and may be NOTHING (no KNOTS).")
     void storeHasAtMostTwelveKnots() {
-        due("12", text(0, "0,0 1,1 2,0 3,1 4,0 5,1 6,0 7,1 8,0 9,1 10,0 11,1"), 12);
+        due("12", text(0, ZIGZAG), 12);
         x.dot(1, 720, 0);
         due("13 on PAPER", x.under(0, 1), 13);
         refused("put of 13", -5, () -> x.put(2));
@@ -160,6 +180,47 @@ final class EdgesOfTerms extends Bench {
         due("NOTHING onto PAPER", x.lay(0), 0);
         due("NOTHING into STORE", x.put(1), 0);
         storeIs(1, "");
+    }
+
+    /** With all 12 KNOTS there is none behind the last one. */
+    @Sentence(promise = 0, says = "It has at most 12 KNOTS in STORE")
+    void aFullPlaceOfStoreIsToldToItsEnd() {
+        text(0, ZIGZAG);
+        int[] ofs = {12, 1, 11, 0, 0, 0, 660, 660, 0, 5};
+        for (int what = 0; what < ofs.length; what++) {
+            due("of(0, " + what + ")", x.of(0, what), ofs[what]);
+        }
+        int[] leasts = {0, 0, 600, 60};
+        for (int what = 0; what < leasts.length; what++) {
+            due("least(0, " + what + ")", x.least(0, what), leasts[what]);
+        }
+        due("the last line", x.slope(0, 10, 0), 1);
+        due("none behind it", x.slope(0, 11, 0), NOTHING);
+        due("the last KNOT", x.knot(0, 11, 0), 660);
+        due("none behind it", x.knot(0, 12, 0), ABSENT);
+        due("area", x.area(0, 0), 11);
+        due("area", x.area(0, 1), 2);
+        due("where", x.where(0, 61, 0), NOTHING);
+        due("places", x.places(0, -5940, 5940), 661);
+        due("value", x.value(0, 660, 0), 1);
+        due("value behind all", x.value(0, 661, 0), NOTHING);
+        due("limit", x.limit(0, 660, 0), 1);
+        due("limit", x.limit(0, 660, 2), NOTHING);
+        due("limit", x.limit(0, 0, 0), NOTHING);
+        due("limit behind all", x.limit(0, 661, 0), NOTHING);
+        due("limit behind all", x.limit(0, 661, 2), NOTHING);
+        due("split", x.split(0, 0, 1320, 0), 2);
+        due("split", x.split(0, 0, 1320, 2), 11);
+        due("compare", x.compare(0, 0), 0);
+        due("turn", x.turn(0), -4);
+        x.cut(0, 0, 660);
+        paperIs(ZIGZAG);
+        x.sum(0, 0);
+        paperIs(ZIGZAG.replace(",1", ",2"));
+        x.under(0, 0);
+        paperIs(ZIGZAG);
+        x.hull(0);
+        paperIs("0,0 10,0 11,1");
     }
 
     @Sentence(promise = 0, says = "STORE 0 .. 5: NOTHING at first.")
@@ -407,6 +468,26 @@ final class EdgesOfTerms extends Bench {
         paperIs("0,0 4,4");
     }
 
+    @Sentence(promise = 0, says = "its lines are parts of theirs;")
+    void linesThatMeetWhereOneEnds() {
+        text(0, "0,0 2,2");
+        text(1, "0,4 2,2");
+        x.under(0, 1);
+        paperIs("0,0 2,2");
+        text(1, "0,4 2,2 3,0");
+        x.under(0, 1);
+        paperIs("0,0 2,2 3,0");
+        text(0, "0,0 2,2 3,3");
+        x.under(0, 1);
+        paperIs("0,0 2,2 3,0");
+        text(1, "0,0 1,-1 3,3");
+        x.under(0, 1);
+        paperIs("0,0 1,-1 3,3");
+        text(1, "0,0 1,5 3,3");
+        x.under(0, 1);
+        paperIs("0,0 3,3");
+    }
+
     @Sentence(promise = 0, says = "where at an x what comes from the left ends higher than the VALUE,")
     void theHigherLeftEndStays() {
         text(0, "0,5 1,5");
@@ -487,6 +568,56 @@ final class EdgesOfTerms extends Bench {
         paperIs("0,0 1,0|1,-1 2,-1 3,0");
     }
 
+    private void joins(String f, String g, String want) {
+        text(0, f);
+        text(1, g);
+        x.join(0, 1);
+        paperIs(want);
+        x.join(1, 0);
+        paperIs(want);
+    }
+
+    /** It is the slope that counts, neither how far a line goes nor how much it rises. */
+    @Sentence(promise = 0, says = "what they make together by rising slopes")
+    void joinedByRisingSlopesOfLongAndShortLines() {
+        joins("0,0 4,2", "0,0 1,1", "0,0 4,2 5,3");
+        joins("0,0 4,-2", "0,0 1,-1", "0,0 1,-1 5,-3");
+        joins("0,0 1/60,1", "0,0 1,1", "0,0 1,1 61/60,2");
+        joins("0,0 1/60,-1", "0,0 1,1", "0,0 1/60,-1 61/60,0");
+        joins("0,0 1/60,1/60", "0,0 1,-1", "0,0 1,-1 61/60,-59/60");
+        joins("0,0 9,1 10,3", "0,0 5,2", "0,0 9,1 14,3 15,5");
+    }
+
+    @Sentence(promise = 0, says = "then UNDER all of these).")
+    void joinedOfTwelveKnotsEach() {
+        StringBuilder want = new StringBuilder();
+        for (int k = 0; k <= 20; k++) {
+            want.append(k).append(',').append(k % 2).append(' ');
+        }
+        joins(ZIGZAG, ZIGZAG, want + "22,2");
+        joins(ZIGZAG.replace(' ', '|'), "0,0|20,0", joinedDots());
+    }
+
+    private static String joinedDots() {
+        String dots = ZIGZAG.replace(' ', '|');
+        StringBuilder moved = new StringBuilder(dots);
+        for (String dot : dots.split("\\|")) {
+            String[] xy = dot.split(",");
+            moved.append('|').append(20 + Integer.parseInt(xy[0])).append(',').append(xy[1]);
+        }
+        return moved.toString();
+    }
+
+    /** Of lines that go below one another the one that does so first goes on, of these the least steep. */
+    @Sentence(promise = 0, says = "then UNDER all of these).")
+    void joinedLinesThatCrossInTurn() {
+        joins("0,0|10,0|20,0", "0,1 6,1|10,-3 16,3|20,-6 26,6",
+                "0,1 6,1|10,-3 14,1 16,1|20,-6 23,0 24,1 26,1|30,-6 33,0 36,3|40,-6 46,6");
+        joins("0,0|10,0|20,0", "0,-6 6,6|10,-3 16,3|20,1 26,1",
+                "0,-6 6,6|10,-6 13,0 16,3|20,-6 23,0 24,1 26,1|30,-3 34,1 36,1|40,1 46,1");
+        joins("0,4|1,0|3,-3", "0,0 4,4 8,0", "0,4 1,5|1,0 3,2|3,-3 7,1 11,-3");
+    }
+
     // ---- II: TURNED
 
     @Sentence(promise = 0, says = "TURNED: x and y exchanged:")
@@ -556,6 +687,21 @@ final class EdgesOfTerms extends Bench {
         text(0, "0,4 2,4|2,-1|2,4 3,4");
         x.hull(0);
         paperIs("0,4 2,-1 3,4");
+        text(0, "-3,5 -1,1 0,0 2,-1 5,-1 6,4");
+        x.hull(0);
+        paperIs("-3,5 -1,1 0,0 2,-1 5,-1 6,4");
+        text(0, "-9,9 -8,1 -7,5|-3,-3 1,-2 2,-4|6,-4 7,4 9,0");
+        x.hull(0);
+        paperIs("-9,9 -8,1 -3,-3 2,-4 6,-4 9,0");
+        text(0, "0,0 1,1 2,3");
+        x.hull(0);
+        paperIs("0,0 1,1 2,3");
+        text(0, "0,0 1,-1 2,-3");
+        x.hull(0);
+        paperIs("0,0 2,-3");
+        text(0, "0,1 1/60,0 2,0 121/60,1");
+        x.hull(0);
+        paperIs("0,1 1/60,0 2,0 121/60,1");
     }
 
     @Sentence(promise = 0, says = "on all from its least to its greatest x.")

@@ -84,6 +84,8 @@ final class EdgesOfText extends Bench {
     void blanksCountForNothing() {
         reads("   -  1  /  2  ,  -  4  |  -  1  /  2  ,  -  3   1  ,  5   ", "-1/2,-4|-1/2,-3 1,5");
         reads("  0 , 0  ", "0,0");
+        reads("0,0/5 | 1/2 , 1/2 ", "0,0|1/2,1/2");
+        reads("0,1/2  1,0/3  ", "0,1/2 1,0");
         bad("1 2,0", 2);
         bad("0,1/6 0", 6);
     }
@@ -190,6 +192,7 @@ final class EdgesOfText extends Bench {
         good(0, TWELVE, 12);
         bad(TWELVE + " 12,0", TWELVE.length() + 1);
         bad(TWELVE + "|12,0", TWELVE.length() + 1);
+        bad(TWELVE + " |  12,0", TWELVE.length() + 4);
         bad(TWELVE + "  -12/61", TWELVE.length() + 2);
         bad(TWELVE + " 12/61,0", TWELVE.length() + 1);
         bad(TWELVE + " 0,0", TWELVE.length() + 1);
