@@ -375,21 +375,30 @@ final class EdgesOfActs extends Bench {
         "The latest read() (told as 0), dot() (1), clear() (2), sum() (3), under() (4), join() (5), turn() (6), "
             + "hull() (7), cut() (8), move() (9), times() (10), lay() (11), put() (12) that was not REFUSED"})
     void everyActIsTakenBackAndToldByItsNumber() {
+        for (int act = 0; act <= 12; act++) {
+            EdgesOfActs fresh = new EdgesOfActs();
+            fresh.name = name;
+            fresh.isTakenBack(act);
+        }
+    }
+
+    private void isTakenBack(int act) {
         text(1, "0,0 1,1|2,2");
+        x.dot(0, 1, 1);
+        x.move(1, 60, 0);
         IntSupplier[] acts = {
             () -> text(0, "5,5"), () -> x.dot(1, 7, 7), () -> x.clear(1), () -> x.sum(1, 1), () -> x.under(1, 1),
             () -> x.join(1, 1), () -> x.turn(1), () -> x.hull(1), () -> x.cut(1, 0, 30), () -> x.move(1, 1, 0),
             () -> x.times(1, 2), () -> x.lay(1), () -> x.put(2)};
-        for (int act = 0; act < acts.length; act++) {
-            x.move(1, 60 * act, 0);
-            String before = state();
-            int could = x.count(9);
-            acts[act].getAsInt();
-            due("it was not REFUSED: " + act, x.status(), 0);
-            due("one more can be undone", x.count(9), Math.min(8, could + 1));
-            due("undo()", x.undo(), act);
-            dueText("all but what is undone", state().replaceAll("\n\\d \\d+$", ""), before.replaceAll("\n\\d \\d+$", ""));
-        }
+        String before = state();
+        String stood = storesAndPaper();
+        acts[act].getAsInt();
+        due("act " + act + " was not REFUSED", x.status(), 0);
+        due("one more can be undone", x.count(9), 4);
+        due("it changed what stands", storesAndPaper().equals(stood) ? 0 : 1, 1);
+        due("undo()", x.undo(), act);
+        due("undo() was not REFUSED", x.status(), 0);
+        dueText("the state behind undo() of " + act, state(), before);
     }
 
     @Sentence(promise = 18, says = "that was not REFUSED")

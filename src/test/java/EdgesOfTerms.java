@@ -569,12 +569,14 @@ final class EdgesOfTerms extends Bench {
     }
 
     private void joins(String f, String g, String want) {
-        text(0, f);
-        text(1, g);
-        x.join(0, 1);
-        paperIs(want);
-        x.join(1, 0);
-        paperIs(want);
+        EdgesOfTerms fresh = new EdgesOfTerms();
+        fresh.name = name;
+        fresh.text(0, f);
+        fresh.text(1, g);
+        fresh.x.join(0, 1);
+        fresh.paperIs(want);
+        fresh.x.join(1, 0);
+        fresh.paperIs(want);
     }
 
     /** It is the slope that counts, neither how far a line goes nor how much it rises. */
